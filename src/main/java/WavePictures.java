@@ -123,6 +123,7 @@ public final class WavePictures {
             return refuseInput(9, NONE);
         }
         Arrays.fill(draft.coefficients, 0);
+        int toldSegments = file.segments;
         // A second time over the same bytes: so the tables are at each scan what they were there.
         file.beginAgain();
         for (int number = 0; number < told && file.nextScan(); number++) {
@@ -134,7 +135,7 @@ public final class WavePictures {
         fault = 0;
         faultPlace = NONE;
         scans = told;
-        segments = file.segments;
+        segments = toldSegments;
         opened++;
         takeDraft();
         return 0;

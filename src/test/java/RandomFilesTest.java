@@ -1,0 +1,96 @@
+import java.util.Arrays;
+import java.util.Random;
+
+/** Promises 5, 6 and 20: files made by chance, and such files spoilt by chance, against the model. */
+public final class RandomFilesTest {
+    public static void main(String[] args) {
+        int rounds = args.length > 0 ? Integer.parseInt(args[0]) : 400;
+        long seed = args.length > 1 ? Long.parseLong(args[1]) : 1;
+        int[] faults = new int[20];
+        for (int round = 0; round < rounds; round++) {
+            Random random = new Random(seed * 1000003 + round);
+            int side = round % 25 == 0 ? 64 : round % 5 == 0 ? 40 : 20;
+            int[] file = new FileMaker(random, side).make();
+            if (file.length > 16384) {
+                continue;
+            }
+            Pair pair = new Pair("seed " + seed + " round " + round);
+            pair.giveBytes(file);
+            faults[pair.openInput()]++;
+            pair.compareStatus();
+            pair.comparePicture();
+            if (pair.m.picture != null && round % 3 == 0) {
+                pair.saveAs(random.nextInt(3), random.nextBoolean() ? 0 : 1 + random.nextInt(4));
+                pair.compareOutput();
+            }
+            for (int k = 0; k < 30; k++) {
+                pair.giveBytes(spoil(file, random));
+                faults[pair.openInput()]++;
+            }
+            pair.compareStatus();
+            pair.comparePicture();
+        }
+        System.out.println("faults 0 .. 16 came so often: " + Arrays.toString(Arrays.copyOf(faults, 17)));
+        Check.end();
+    }
+
+    private static int[] spoil(int[] file, Random random) {
+        int[] now = file.clone();
+        for (int k = random.nextInt(3); k >= 0; k--) {
+            int at = random.nextInt(now.length);
+            switch (random.nextInt(8)) {
+                case 0:
+                    now[at] ^= 1 << random.nextInt(8);
+                    break;
+                case 1:
+                    now[at] = random.nextInt(256);
+                    break;
+                case 2:
+                    now[at] = Math.max(0, Math.min(255, now[at] + (random.nextBoolean() ? 1 : -1)));
+                    break;
+                case 3:
+                    now = cut(now, at, 0, random.nextInt(256));
+                    break;
+                case 4:
+                    now = cut(now, at, 1, -1);
+                    break;
+                case 5:
+                    now = random.nextInt(4) == 0 && at > 0 ? Arrays.copyOf(now, at) : now;
+                    break;
+                case 6:
+                    // A marker that starts there becomes another one.
+                    for (int b = at; b + 1 < now.length; b++) {
+                        if (now[b] == 255 && now[b + 1] > 190) {
+                            int[] codes = {192, 194, 196, 208, 209, 215, 216, 217, 218, 219, 220, 221, 224, 254, 0, 255};
+                            now[b + 1] = codes[random.nextInt(codes.length)];
+                            break;
+                        }
+                    }
+                    break;
+                default:
+                    // A byte of a segment's beginning.
+                    for (int b = at; b + 9 < now.length; b++) {
+                        if (now[b] == 255 && now[b + 1] > 190) {
+                            int where = b + 2 + random.nextInt(8);
+                            now[where] = random.nextBoolean() ? random.nextInt(256) : now[where] + 1 & 255;
+                            break;
+                        }
+                    }
+                    break;
+            }
+        }
+        return now;
+    }
+
+    /** Without so many bytes from there on, and with one more if it is not -1. */
+    private static int[] cut(int[] file, int at, int gone, int more) {
+        int[] now = new int[file.length - gone + (more < 0 ? 0 : 1)];
+        System.arraycopy(file, 0, now, 0, at);
+        int to = at;
+        if (more >= 0) {
+            now[to++] = more;
+        }
+        System.arraycopy(file, at + gone, now, to, file.length - at - gone);
+        return now;
+    }
+}
