@@ -827,7 +827,7 @@ public final class WavePictures {
         private final int[] quantiserOf = new int[MOST_COMPONENTS];
         private final int[] quantisers = new int[64 * 4];
         private final int[] latestBits = new int[64 * MOST_COMPONENTS];
-        private final boolean[] used = new boolean[256];
+        private final int[] used = new int[256];
 
         FileReader(Bytes input, Picture picture) {
             this.input = input;
@@ -1085,16 +1085,16 @@ public final class WavePictures {
 
         private boolean readSymbols(Words table, int most) {
             int many = table.firstPlace[16] + table.counts[16];
-            Arrays.fill(used, false);
+            Arrays.fill(used, 0);
             for (int k = 0; k < many; k++) {
                 int symbol = byteIn(0, most);
                 if (symbol == NONE) {
                     return false;
                 }
-                if (used[symbol]) {
+                if (used[symbol] != 0) {
                     return refuse();
                 }
-                used[symbol] = true;
+                used[symbol] = 1;
                 table.symbols[k] = symbol;
             }
             return true;
