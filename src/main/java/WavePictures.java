@@ -2218,11 +2218,14 @@ public final class WavePictures {
             if (block == NONE) {
                 return;
             }
+            for (int place = 0; place < 64; place++) {
+                given[place] = plane.nearest(8 * bx + place % 8, 8 * by + place / 8) - 128;
+            }
             for (int v = 0; v < 8; v++) {
                 for (int x = 0; x < 8; x++) {
                     long sum = 0;
                     for (int y = 0; y < 8; y++) {
-                        sum += (long) table[192 + 8 * v + y] * (plane.nearest(8 * bx + x, 8 * by + y) - 128);
+                        sum += table[192 + 8 * v + y] * given[8 * y + x];
                     }
                     half[8 * v + x] = round(sum, 11);
                 }
