@@ -14,8 +14,20 @@ public final class WavePictures {
     private static final int MOST_COMPONENTS = 4;
     private static final int MOST_PARTS = 10;
     private static final int SIDE = 32;
+
+    /** Codes of markers. */
     private static final int SEQUENTIAL = 192;
     private static final int PROGRESSIVE = 194;
+    private static final int WORDS = 196;
+    private static final int FIRST_RESTART = 208;
+    private static final int LAST_RESTART = 215;
+    private static final int BEGINNING = 216;
+    private static final int END = 217;
+    private static final int SCAN = 218;
+    private static final int QUANTISERS = 219;
+    private static final int LINES = 220;
+    private static final int INTERVAL = 221;
+    private static final int REMARK = 254;
 
     /** The place 8 * v + u of coefficient k. */
     private static final int[] ZIGZAG = {
@@ -55,7 +67,7 @@ public final class WavePictures {
     private final Plane near;
     private final Plane far;
     private final Waves waves;
-    private final FileReader file;
+    private final SegmentReader file;
     private final ScanReader scanReader;
     private final Saver saver;
     private int fault;
@@ -77,7 +89,7 @@ public final class WavePictures {
         near = new Plane();
         far = new Plane();
         waves = new Waves();
-        file = new FileReader(input, draft);
+        file = new SegmentReader(input, draft);
         scanReader = new ScanReader(input, draft);
         saver = new Saver(spareOutput, picture);
         faultPlace = NONE;
@@ -171,7 +183,7 @@ public final class WavePictures {
                 }
             }
         }
-        saver.tellMarker(217);
+        saver.tellMarker(END);
         if (spareOutput.tooMany) {
             return NONE;
         }
@@ -807,7 +819,7 @@ public final class WavePictures {
     }
 
     /** Reads a file's markers and segments, scan by scan; stops at the first fault. */
-    private static final class FileReader {
+    private static final class SegmentReader {
         final Bytes input;
         Picture picture;
         final Scan scan = new Scan();
@@ -829,7 +841,7 @@ public final class WavePictures {
         private final int[] latestBits = new int[64 * MOST_COMPONENTS];
         private final int[] used = new int[256];
 
-        FileReader(Bytes input, Picture picture) {
+        SegmentReader(Bytes input, Picture picture) {
             this.input = input;
             this.picture = picture;
             for (int t = 0; t < 8; t++) {
@@ -865,7 +877,7 @@ public final class WavePictures {
                 fail(2, 0);
             } else if (input.length == 1) {
                 fail(1, 1);
-            } else if (input.at(1) != 216) {
+            } else if (input.at(1) != BEGINNING) {
                 fail(2, 0);
             }
         }
@@ -874,10 +886,10 @@ public final class WavePictures {
         boolean nextScan() {
             for (int turn = 0; fault == 0 && turn < MOST_BYTES; turn++) {
                 int code = readMarker();
-                if (code == NONE || code == 217 || !readSegment(code)) {
+                if (code == NONE || code == END || !readSegment(code)) {
                     return false;
                 }
-                if (code == 218) {
+                if (code == SCAN) {
                     return true;
                 }
             }
@@ -916,20 +928,20 @@ public final class WavePictures {
 
         private boolean canStandHere(int code) {
             if (linesDue) {
-                return code == 220;
+                return code == LINES;
             }
             switch (code) {
                 case SEQUENTIAL:
                 case PROGRESSIVE:
                     return kind == 0;
-                case 218:
+                case SCAN:
                     return kind != 0;
-                case 217:
+                case END:
                     return kind != 0 && allWereInScans();
-                case 196:
-                case 219:
-                case 221:
-                case 254:
+                case WORDS:
+                case QUANTISERS:
+                case INTERVAL:
+                case REMARK:
                     return true;
                 default:
                     return code >= 224 && code <= 239;
@@ -960,18 +972,18 @@ public final class WavePictures {
             position += 2;
             segments++;
             switch (code) {
-                case 219:
+                case QUANTISERS:
                     return readQuantisers();
-                case 196:
+                case WORDS:
                     return readWordTables();
-                case 221:
+                case INTERVAL:
                     return readInterval();
                 case SEQUENTIAL:
                 case PROGRESSIVE:
                     return readFrame(code);
-                case 218:
+                case SCAN:
                     return readScan();
-                case 220:
+                case LINES:
                     return readLines();
                 default:
                     return passOver();
@@ -1310,7 +1322,7 @@ public final class WavePictures {
 
         private boolean findEndOfData() {
             scan.dataFrom = position;
-            int restart = 208;
+            int restart = FIRST_RESTART;
             while (position + 1 < input.length) {
                 int next = input.at(position + 1);
                 if (input.at(position) != 255) {
@@ -1318,7 +1330,7 @@ public final class WavePictures {
                 } else if (next == 0) {
                     position += 2;
                 } else if (interval > 0 && next == restart) {
-                    restart = restart == 215 ? 208 : restart + 1;
+                    restart = restart == LAST_RESTART ? FIRST_RESTART : restart + 1;
                     position += 2;
                 } else {
                     scan.dataTo = position;
@@ -1358,7 +1370,7 @@ public final class WavePictures {
             begin();
             for (int unit = 0; unit < scan.units && fault == 0; unit++) {
                 if (interval > 0 && unit > 0 && unit % interval == 0) {
-                    passRestart(208 + (unit / interval - 1) % 8);
+                    passRestart(FIRST_RESTART + (unit / interval - 1) % 8);
                 }
                 for (int part = 0; part < scan.parts && fault == 0; part++) {
                     int member = scan.partMember[part];
@@ -1755,7 +1767,7 @@ public final class WavePictures {
             for (int unit = 0; unit < scan.units; unit++) {
                 if (interval > 0 && unit > 0 && unit % interval == 0) {
                     endBits();
-                    writeRestart(208 + (unit / interval - 1) % 8);
+                    writeRestart(FIRST_RESTART + (unit / interval - 1) % 8);
                 }
                 for (int part = 0; part < scan.parts; part++) {
                     int c = scan.component[scan.partMember[part]];
@@ -1959,7 +1971,7 @@ public final class WavePictures {
             interval = unitsBetween;
             writer.begin(target, whole);
             out.clear();
-            tellMarker(216);
+            tellMarker(BEGINNING);
         }
 
         void tellMarker(int code) {
@@ -1974,7 +1986,7 @@ public final class WavePictures {
 
         /** All that comes ahead of the scans. */
         void tellPicture(int kind) {
-            tellSegment(219, 65 * picture.many);
+            tellSegment(QUANTISERS, 65 * picture.many);
             for (int c = 0; c < picture.many; c++) {
                 out.add(c);
                 for (int k = 0; k < 64; k++) {
@@ -1992,7 +2004,7 @@ public final class WavePictures {
                 out.add(c);
             }
             if (interval > 0) {
-                tellSegment(221, 2);
+                tellSegment(INTERVAL, 2);
                 out.addTwo(interval);
             }
         }
@@ -2023,7 +2035,7 @@ public final class WavePictures {
             scan.layOut(picture);
             writer.write(interval, true);
             tellTables(c, many);
-            tellSegment(218, 4 + 2 * many);
+            tellSegment(SCAN, 4 + 2 * many);
             out.add(many);
             for (int member = c; member < c + many; member++) {
                 out.add(member + 1);
@@ -2046,7 +2058,7 @@ public final class WavePictures {
             if (contents == 0) {
                 return;
             }
-            tellSegment(196, contents);
+            tellSegment(WORDS, contents);
             for (int t = c; t < c + many && direct; t++) {
                 tellTable(t, tables[t]);
             }
