@@ -24,7 +24,7 @@ public final class RandomFilesTest {
                 pair.compareOutput();
             }
             for (int k = 0; k < 30; k++) {
-                pair.giveBytes(spoil(file, random));
+                pair.giveBytes(k % 3 == 0 ? spoilSegment(file, random, k % 2 == 0 ? 218 : 196) : spoil(file, random));
                 faults[pair.openInput()]++;
             }
             pair.compareStatus();
@@ -77,6 +77,24 @@ public final class RandomFilesTest {
                         }
                     }
                     break;
+            }
+        }
+        return now;
+    }
+
+    /** Other bytes in the data of a scan, or other symbols of words: the markers stay what they are. */
+    private static int[] spoilSegment(int[] file, Random random, int code) {
+        int[] now = file.clone();
+        int start = random.nextInt(now.length);
+        for (int k = 0; k + 3 < now.length; k++) {
+            int b = (start + k) % (now.length - 3);
+            if (now[b] == 255 && now[b + 1] == code) {
+                int length = 256 * now[b + 2] + now[b + 3];
+                int where = b + 2 + (code == 218 ? length + random.nextInt(12) : Math.max(2, length - random.nextInt(12)));
+                if (where > 0 && where < now.length && now[where] != 255 && now[where - 1] != 255) {
+                    now[where] = code == 218 ? random.nextInt(255) : now[where] ^ 1 << random.nextInt(8);
+                }
+                return now;
             }
         }
         return now;
