@@ -9,6 +9,7 @@ public final class SaveTest {
         aProgressiveFile();
         scansOfEach();
         longWords();
+        runsWithManyBits();
         tooLong();
         thereAndBack();
         Check.end();
@@ -196,6 +197,29 @@ public final class SaveTest {
         Check.due("taken", x.statusOf(0), length);
         Check.due("opens", x.openInput(), 0);
         Check.due("the same", x.aboutPicture(5), amounts);
+    }
+
+    /** A run of refined blocks is sent when it has more than 900 bits, and not when it has just these. */
+    private static void runsWithManyBits() {
+        Pair pair = new Pair("runs with many bits");
+        pair.giveBytes(Parts.join(Parts.START, Parts.quantiser(0, 1), Parts.words(0, 0), Parts.words(16, 0),
+            Parts.frame(192, 24, 64, 1, 17, 0), Parts.scan(0, 63, 0, 1, 0), new int[6], Parts.END));
+        Check.due("open", pair.openInput(), 0);
+        // Fourteen blocks with 63 bits each and one with 18 have 900; the next one makes it 963, of sixteen blocks.
+        for (int block = 0; block < 24; block++) {
+            for (int k = 1; k < (block == 14 ? 19 : 64); k++) {
+                pair.setCoefficient(0, block % 8, block / 8, k, 4 + (block + k) % 3);
+            }
+        }
+        int length = pair.saveAs(2, 0);
+        pair.compareOutput();
+        // The last table: 16 * 4 for a run of 16 and 16 * 3 for one of 8, each of which comes once.
+        int at = length - 1;
+        while (pair.x.outputAt(at) != 255 || pair.x.outputAt(at + 1) != 196) {
+            at--;
+        }
+        bytes("the last table", pair.x, at + 4, 16, 1, 1, 0);
+        bytes("its symbols", pair.x, at + 21, 48, 64);
     }
 
     private static void tooLong() {
