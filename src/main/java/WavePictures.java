@@ -1559,18 +1559,18 @@ public final class WavePictures {
                 }
                 if (size == 0 && zeros < 15) {
                     startRun(zeros);
-                } else {
-                    int value = size == 0 ? 0 : takeBit() == 1 ? 1 << scan.bits : -(1 << scan.bits);
-                    k = refineUpTo(at, k, zeros);
-                    if (fault == 0 && k > scan.last) {
-                        fault = 3;
-                    }
-                    if (fault != 0) {
-                        return;
-                    }
-                    picture.coefficients[at + k] = value;
-                    k++;
+                    break;
                 }
+                int value = size == 0 ? 0 : takeBit() == 1 ? 1 << scan.bits : -(1 << scan.bits);
+                k = refineUpTo(at, k, zeros);
+                if (fault == 0 && k > scan.last) {
+                    fault = 3;
+                }
+                if (fault != 0) {
+                    return;
+                }
+                picture.coefficients[at + k] = value;
+                k++;
             }
             if (run > 0 && fault == 0) {
                 refineUpTo(at, k, 64);
