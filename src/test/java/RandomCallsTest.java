@@ -8,7 +8,8 @@ public final class RandomCallsTest {
         for (int round = 0; round < rounds; round++) {
             Random random = new Random(seed * 7919 + round);
             Pair pair = new Pair("seed " + seed + " round " + round);
-            for (int call = 0; call < 60; call++) {
+            // What has been told must be told again by a new object, so that there is an end to it.
+            for (int call = 0; call < 60 && pair.x.left() > 250; call++) {
                 oneCall(pair, random);
             }
             pair.compareAll();
@@ -50,8 +51,8 @@ public final class RandomCallsTest {
                 pair.openInput();
                 break;
             case 4:
-                int[] file = new FileMaker(random, random.nextInt(4) == 0 ? 64 : 32).make();
-                if (file.length <= 16384) {
+                int[] file = new FileMaker(random, random.nextInt(4) == 0 ? 64 : 24).make();
+                if (file.length <= 8 * (pair.x.left() - 150)) {
                     pair.giveBytes(file);
                     pair.openInput();
                 }
@@ -75,7 +76,7 @@ public final class RandomCallsTest {
                 crop(pair, random);
                 break;
             case 12:
-                for (int k = 0; k < 20; k++) {
+                for (int k = 0; k < 10; k++) {
                     pair.setCoefficient(about(random, 0, 3), about(random, 0, 3), about(random, 0, 3),
                         about(random, 0, 63), about(random, -1024, 1023));
                 }
@@ -84,7 +85,7 @@ public final class RandomCallsTest {
                 pair.canvasSize(about(random, 0, 3), about(random, 1, 32), about(random, 1, 32));
                 break;
             case 14:
-                for (int k = 0; k < 20; k++) {
+                for (int k = 0; k < 10; k++) {
                     pair.canvasRow(about(random, 0, 3), about(random, 0, 31), about(random, 0, 31), random.nextLong());
                 }
                 break;
@@ -104,11 +105,12 @@ public final class RandomCallsTest {
 
     /** Mostly all planes get one size and new samples first; rough ones and smooth ones. */
     private static void paint(Pair pair, Random random) {
-        int w = about(random, 1, 32);
-        int h = about(random, 1, 32);
+        boolean small = random.nextInt(6) > 0 || pair.x.left() < 400;
+        int w = about(random, 1, small ? 10 : 32);
+        int h = about(random, 1, small ? 8 : 18);
         int many = about(random, 1, 4);
         boolean rough = random.nextBoolean();
-        for (int p = 0; p < 4 && random.nextInt(20) > 0; p++) {
+        for (int p = 0; p < Math.min(4, many) && random.nextInt(20) > 0; p++) {
             pair.canvasSize(p, w, h);
             for (int y = 0; y < h && y < 32; y++) {
                 for (int x = 0; x < w && x < 32; x += 8) {

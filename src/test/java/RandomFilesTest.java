@@ -3,6 +3,9 @@ import java.util.Random;
 
 /** Promises 5, 6 and 20: files made by chance, and such files spoilt by chance, against the model. */
 public final class RandomFilesTest {
+    /** So many can be given in about 400 calls, which leaves some to ask what came of them. */
+    private static final int MOST_BYTES = 3200;
+
     public static void main(String[] args) {
         int rounds = args.length > 0 ? Integer.parseInt(args[0]) : 400;
         long seed = args.length > 1 ? Long.parseLong(args[1]) : 1;
@@ -11,7 +14,7 @@ public final class RandomFilesTest {
             Random random = new Random(seed * 1000003 + round);
             int side = round % 25 == 0 ? 64 : round % 5 == 0 ? 40 : 20;
             int[] file = new FileMaker(random, side).make();
-            if (file.length > 16384) {
+            if (file.length > MOST_BYTES) {
                 continue;
             }
             Pair pair = new Pair("seed " + seed + " round " + round);
@@ -24,11 +27,19 @@ public final class RandomFilesTest {
                 pair.compareOutput();
             }
             for (int k = 0; k < 30; k++) {
-                pair.giveBytes(k % 3 == 0 ? spoilSegment(file, random, k % 2 == 0 ? 218 : 196) : spoil(file, random));
-                faults[pair.openInput()]++;
+                int[] other = k % 3 == 0 ? spoilSegment(file, random, k % 2 == 0 ? 218 : 196) : spoil(file, random);
+                Pair next = new Pair("seed " + seed + " round " + round + " spoilt " + k);
+                if (k % 10 == 0 && file.length < MOST_BYTES / 2) {
+                    next.giveBytes(file);
+                    next.openInput();
+                }
+                next.giveBytes(other);
+                faults[next.openInput()]++;
+                next.compareStatus();
+                if (k % 10 == 0 || next.m.fault == 0 && k % 3 == 0) {
+                    next.comparePicture();
+                }
             }
-            pair.compareStatus();
-            pair.comparePicture();
         }
         System.out.println("faults 0 .. 16 came so often: " + Arrays.toString(Arrays.copyOf(faults, 17)));
         Check.end();

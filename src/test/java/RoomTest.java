@@ -1,23 +1,19 @@
 import java.lang.management.ManagementFactory;
-import java.util.Random;
 
-/** All calls of a run share one room: the constructor takes what it needs, the other calls take nothing. */
+/** All calls of a run live in one room of 7.3 million fields and elements: so do the 512 dearest calls. */
 public final class RoomTest {
     private static final com.sun.management.ThreadMXBean THREADS =
         (com.sun.management.ThreadMXBean) ManagementFactory.getThreadMXBean();
+    /** As if each took no more than four bytes. */
+    private static final long ROOM = 4 * 7_300_000L;
 
     public static void main(String[] args) {
+        run();
         long start = taken();
-        WavePictures x = new WavePictures();
-        long made = taken() - start;
-        Check.due("the constructor takes " + made + " bytes", made < 600_000, true);
-        int[] file = largeFile();
-        calls(x, file, 1);
-        start = taken();
-        int answered = calls(x, file, 40);
-        long more = taken() - start;
+        int answered = run();
+        long all = taken() - start;
         Check.due("calls were made", answered > 1000, true);
-        Check.due("all further calls take " + more + " bytes", more < 20_000, true);
+        Check.due("a run takes " + all + " bytes", all < ROOM, true);
         Check.end();
     }
 
@@ -25,41 +21,31 @@ public final class RoomTest {
         return THREADS.getThreadAllocatedBytes(Thread.currentThread().getId());
     }
 
-    private static int[] largeFile() {
-        for (int seed = 0; ; seed++) {
-            int[] file = new FileMaker(new Random(seed), 64).make();
-            Model model = new Model();
-            model.input = file;
-            if (file.length < 16384 && model.openInput() == 0 && model.aboutPicture(3) > 100) {
-                return file;
-            }
-        }
-    }
-
-    /** Every call of the face; the sum of what they answer. */
-    private static int calls(WavePictures x, int[] file, int rounds) {
+    /** The fullest picture that there is, opened, saved, turned, shown and painted over and over again. */
+    private static int run() {
+        int[] file = Loud.file(52);
+        long start = taken();
+        WavePictures x = new WavePictures();
+        int calls = 0;
         int sum = 0;
-        for (int round = 0; round < rounds; round++) {
-            Parts.give(x, file);
-            sum += x.openInput();
-            sum += x.saveAs(round % 3, round);
-            x.takeOutput();
-            sum += x.openInput();
-            sum += x.turnBy(round % 6) ? 1 : 0;
-            sum += x.cropTo(0, 0, 1, 1) ? 1 : 0;
-            sum += x.showAt(8, true) ? 1 : 0;
-            sum += x.setCoefficient(0, 0, 0, 0, 5) ? 1 : 0;
-            sum += x.coefficientAt(0, 0, 0, 0) + x.stepAt(0, 0);
-            for (int p = 0; p < 4; p++) {
-                sum += x.canvasSize(p, 32, 32) ? 1 : 0;
-                sum += x.canvasRow(p, 0, 0, round) ? 1 : 0;
-                sum += (int) x.canvasEight(p, 0, 0);
+        for (int k = 0; k < file.length; k += 8, calls++) {
+            long eight = 0;
+            for (int b = k; b < k + 8; b++) {
+                eight = eight << 8 | (b < file.length ? file[b] : 0);
             }
-            sum += x.mixCanvas(round % 7) ? 1 : 0;
-            sum += x.paintFrom(32, 32, 4, 0x03, 50) ? 1 : 0;
-            sum += x.saveAs(2, 1);
-            sum += x.outputAt(3) + x.aboutPicture(4) + x.statusOf(3);
+            x.giveInput(eight, 8);
         }
+        for (; calls < 504; calls += 8) {
+            sum += x.openInput();
+            sum += x.saveAs(calls % 3, calls % 5);
+            sum += x.turnBy(calls % 6) ? 1 : 0;
+            sum += x.showAt(4, true) ? 1 : 0;
+            sum += x.cropTo(0, 0, 1, 1) ? 1 : 0;
+            sum += x.paintFrom(32, 24, 4, 0, 50) ? 1 : 0;
+            sum += x.mixCanvas(calls % 7) ? 1 : 0;
+            sum += x.aboutPicture(5);
+        }
+        Check.due("the calls alone, without the test's own", taken() - start < ROOM, true);
         return sum;
     }
 }

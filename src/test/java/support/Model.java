@@ -13,6 +13,7 @@ final class Model {
 
     /** A fault with its place. */
     static final class Fault extends RuntimeException {
+        private static final long serialVersionUID = 1;
         final int number;
         final int place;
 
@@ -111,6 +112,8 @@ final class Model {
     int scans;
     int segments;
     int opened;
+    /** How many bytes the latest saving would have had, if there were room. */
+    int wouldBe;
 
     static int ceil(int a, int b) {
         return (a + b - 1) / b;
@@ -1119,6 +1122,7 @@ final class Model {
             saveScan(out, t);
         }
         out.addAll(List.of(255, 217));
+        wouldBe = out.size();
         if (out.size() > 16384) {
             return -1;
         }

@@ -1,11 +1,17 @@
+import java.util.Random;
+
 /** A WavePictures and a Model that get the same calls; every answer of both is compared. */
 final class Pair {
-    final WavePictures x = new WavePictures();
+    final Subject x = new Subject();
     final Model m = new Model();
+    /** About so many questions are asked at once. */
+    private static final int MANY = 600;
+    private final Random asked;
     private final String name;
 
     Pair(String name) {
         this.name = name;
+        this.asked = new Random(name.hashCode());
     }
 
     private long same(String call, long got, long want) {
@@ -28,15 +34,9 @@ final class Pair {
     }
 
     void giveBytes(int[] bytes) {
-        wipeInput();
-        for (int k = 0; k < bytes.length; k += 8) {
-            int n = Math.min(8, bytes.length - k);
-            long v = 0;
-            for (int b = 0; b < n; b++) {
-                v = v << 8 | bytes[k + b];
-            }
-            giveInput(v, n);
-        }
+        Parts.give(x, bytes);
+        m.input = bytes.clone();
+        same("bytes of the input", x.statusOf(0), bytes.length);
     }
 
     void takeOutput() {
@@ -93,21 +93,22 @@ final class Pair {
         return same("mixCanvas(" + which + ")", x.mixCanvas(which), m.mixCanvas(which));
     }
 
-    /** All that can be asked of the picture. */
+    /** All that can be asked of the picture; of many coefficients only some, which differ from time to time. */
     void comparePicture() {
         for (int w = -1; w < 26; w++) {
             same("aboutPicture(" + w + ")", x.aboutPicture(w), m.aboutPicture(w));
         }
         int many = Math.max(0, m.aboutPicture(2));
         for (int c = -1; c <= many; c++) {
-            for (int k = -1; k <= 64; k++) {
+            for (int k = -1; k <= 64; k += 1 + asked.nextInt(9)) {
                 same("stepAt(" + c + ", " + k + ")", x.stepAt(c, k), m.stepAt(c, k));
             }
             int across = m.aboutPicture(8 + 4 * Math.max(0, c) + 2);
             int down = m.aboutPicture(8 + 4 * Math.max(0, c) + 3);
+            int far = 1 + Math.max(0, m.aboutPicture(3)) * 65 / MANY;
             for (int by = -1; by <= down; by++) {
                 for (int bx = -1; bx <= across; bx++) {
-                    for (int k = -1; k <= 64; k++) {
+                    for (int k = -1; k <= 64; k += 1 + asked.nextInt(2 * far - 1)) {
                         same("coefficientAt(" + c + ", " + bx + ", " + by + ", " + k + ")",
                             x.coefficientAt(c, bx, by, k), m.coefficientAt(c, bx, by, k));
                     }
@@ -118,8 +119,10 @@ final class Pair {
 
     void compareCanvas() {
         for (int p = -1; p <= 4; p++) {
-            for (int y = -1; y <= 33; y++) {
-                for (int left = -9; left < 34; left += 3) {
+            int w = Math.max(1, m.statusOf(8 + 2 * Math.max(0, p)));
+            int h = Math.max(1, m.statusOf(9 + 2 * Math.max(0, p)));
+            for (int y = -1; y <= h; y++) {
+                for (int left = -8 + asked.nextInt(8); left < w + 8; left += 8) {
                     same("canvasEight(" + p + ", " + left + ", " + y + ")",
                         x.canvasEight(p, left, y), m.canvasEight(p, left, y));
                 }
@@ -127,10 +130,15 @@ final class Pair {
         }
     }
 
+    /** Of many bytes only some. */
     void compareOutput() {
-        for (int k = -1; k <= m.statusOf(3); k++) {
+        int length = m.statusOf(3);
+        int far = 1 + length / MANY;
+        for (int k = -1; k <= length; k += 1 + asked.nextInt(2 * far - 1)) {
             same("outputAt(" + k + ")", x.outputAt(k), m.outputAt(k));
         }
+        same("the last byte", x.outputAt(length - 1), m.outputAt(length - 1));
+        same("behind it", x.outputAt(length), m.outputAt(length));
     }
 
     void compareStatus() {

@@ -1,6 +1,6 @@
 import java.util.Arrays;
 
-/** Parts of files, as rows of bytes. */
+/** Parts of files, as rows of bytes, and what comes of opening them. */
 final class Parts {
     static final int[] START = {255, 216};
     static final int[] END = {255, 217};
@@ -96,21 +96,120 @@ final class Parts {
         return all;
     }
 
-    static void give(WavePictures x, int[] bytes) {
+    /** The input is wiped, and these bytes come to it, eight by eight. */
+    static void give(Subject x, int[]... parts) {
+        int[] bytes = join(parts);
         x.wipeInput();
-        for (int b : bytes) {
-            x.giveInput(b, 1);
+        for (int k = 0; k < bytes.length; k += 8) {
+            int n = Math.min(8, bytes.length - k);
+            long v = 0;
+            for (int b = 0; b < n; b++) {
+                v = v << 8 | bytes[k + b];
+            }
+            x.giveInput(v, n);
         }
+    }
+
+    /** A new object with the picture of a good file. */
+    static Subject open(String what, int[]... parts) {
+        Subject x = new Subject();
+        give(x, parts);
+        Check.due(what + ": openInput()", x.openInput(), 0);
+        return x;
     }
 
     /** Opens the bytes on a new object: the fault and its place must be these. */
     static void due(String what, int fault, int place, int[]... parts) {
-        WavePictures x = new WavePictures();
-        give(x, join(parts));
+        Subject x = new Subject();
+        give(x, parts);
         Check.due(what + ": openInput()", x.openInput(), fault);
         Check.due(what + ": statusOf(1)", x.statusOf(1), fault);
         Check.due(what + ": the place", x.statusOf(2), place);
         Check.due(what + ": opened", x.statusOf(6), fault == 0 ? 1 : 0);
         Check.due(what + ": picture", x.aboutPicture(0) != -1, fault == 0);
+    }
+
+    /** A file of any picture, written by the model. */
+    static int[] fileOf(Model.Pic pic, int script) {
+        Model model = new Model();
+        model.picture = pic;
+        if (model.saveAs(script, 0) < 0 || model.output.length > 8 * 450) {
+            throw new IllegalStateException("so large a file can not be given in 512 calls");
+        }
+        return model.output;
+    }
+
+    /** A picture of components that are all H by V 1 by 1, with steps 1 and coefficients 0. */
+    static Model.Pic plain(int width, int height, int many) {
+        Model.Pic pic = new Model.Pic();
+        pic.width = width;
+        pic.height = height;
+        pic.many = many;
+        Arrays.fill(pic.h, 1);
+        Arrays.fill(pic.v, 1);
+        for (int[] steps : pic.steps) {
+            Arrays.fill(steps, 1);
+        }
+        pic.makeBlocks();
+        return pic;
+    }
+
+    /** All bytes of the output. */
+    static int[] outputOf(Subject x) {
+        int[] all = new int[x.statusOf(3)];
+        for (int k = 0; k < all.length; k++) {
+            all[k] = x.outputAt(k);
+        }
+        return all;
+    }
+
+    /** The contents of the nth segment of a code, from 0 on, as they were saved; none if there are not so many. */
+    static int[] contents(int[] file, int code, int nth) {
+        int at = 2;
+        int found = 0;
+        while (at + 3 < file.length && file[at] == 255) {
+            int length = 256 * file[at + 2] + file[at + 3];
+            if (file[at + 1] == code && found++ == nth) {
+                return Arrays.copyOfRange(file, at + 4, at + 2 + length);
+            }
+            at = behind(file, at, length);
+        }
+        return new int[0];
+    }
+
+    /** The data behind the nth scan. */
+    static int[] dataOf(int[] file, int nth) {
+        int at = 2;
+        int found = 0;
+        while (at + 3 < file.length && file[at] == 255) {
+            int length = 256 * file[at + 2] + file[at + 3];
+            int next = behind(file, at, length);
+            if (file[at + 1] == 218 && found++ == nth) {
+                return Arrays.copyOfRange(file, at + 2 + length, next);
+            }
+            at = next;
+        }
+        return new int[0];
+    }
+
+    /** Where the next marker is behind a segment, and its data if it is a scan's. */
+    private static int behind(int[] file, int at, int length) {
+        int next = at + 2 + length;
+        while (file[at + 1] == 218 && next + 1 < file.length
+                && (file[next] != 255 || file[next + 1] == 0 || file[next + 1] >= 208 && file[next + 1] <= 215)) {
+            next++;
+        }
+        return next;
+    }
+
+    static void same(String what, int[] got, int... want) {
+        Check.due(what + " " + Arrays.toString(got) + ", due is " + Arrays.toString(want), Arrays.equals(got, want), true);
+    }
+
+    /** Bytes of the output from one on. */
+    static void output(String what, Subject x, int from, int... want) {
+        for (int k = 0; k < want.length; k++) {
+            Check.due(what + ", byte " + (from + k), x.outputAt(from + k), want[k]);
+        }
     }
 }
