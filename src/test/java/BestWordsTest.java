@@ -183,6 +183,33 @@ public final class BestWordsTest {
         x.saveAs(1, 0);
         Parts.same("of the second, later", Parts.contents(Parts.outputOf(x), 196, 1),
             Parts.join(tables[1], one, new int[] {10}, tables[3], one, new int[] {2}));
+        earlierSavings();
+    }
+
+    /** What came in an earlier saving, or in another scan of the same one, does not count. */
+    private static void earlierSavings() {
+        for (int script = 0; script < 3; script++) {
+            Pair pair = new Pair("later savings by script " + script);
+            Model.Pic pic = Parts.plain(8, 8, 4);
+            for (int c = 0; c < 4; c++) {
+                for (int k = 0; k < 64; k++) {
+                    pic.blocks[c][0][0][k] = 1 << (k + c) % 10;
+                }
+            }
+            pair.giveBytes(Parts.fileOf(pic, 0));
+            pair.openInput();
+            pair.saveAs(script, 0);
+            Parts.same("at first", Parts.outputOf(pair.x), pair.m.output);
+            for (int c = 0; c < 4; c++) {
+                for (int k = 0; k < 64; k += c == 0 ? 5 : 3) {
+                    pair.setCoefficient(c, 0, 0, k, 7 * c - k);
+                }
+            }
+            pair.saveAs(script, 0);
+            Parts.same("later", Parts.outputOf(pair.x), pair.m.output);
+            pair.saveAs(script, 0);
+            Parts.same("again", Parts.outputOf(pair.x), pair.m.output);
+        }
     }
 
     /** Small numbers, so that many are alike. */

@@ -17,6 +17,7 @@ public final class CanvasTest {
         darkenMix();
         greyMix();
         doubleMixes();
+        allOfOpen();
         allPlaces();
         mixesThatAreNone();
         planesOfOtherSizes();
@@ -223,11 +224,18 @@ public final class CanvasTest {
         due(0, 100, 128, 128, 9, 100, 100, 100);
         // q = 72: 91881 * 72 = 6615432, + 32768 by 65536 is 101.4; p = -28: 631512 - 3369744 + 32768 is -41.3 of them.
         due(0, 100, 100, 200, 9, 201, 58, 50);
+        Check.sentence("LIMIT(a + SHIFTED(-22554 * p - 46802 * q + 32768, 16)); LIMIT(a + SHIFTED(116130 * p + 32768, 16)).");
         // One step: 91881 + 32768 by 65536 is 1, -22554 + 32768 is 0, 116130 + 32768 is 2.
         due(0, 100, 129, 128, 9, 100, 100, 102);
         due(0, 100, 127, 128, 9, 100, 100, 98);
         due(0, 100, 128, 129, 9, 101, 99, 100);
         due(0, 100, 128, 127, 9, 99, 101, 100);
+        // Just at the edge of rounding: 22553 or 46803 or 116129 would be another sample.
+        due(0, 100, 2, 83, 9, 37, 175, 0);
+        due(0, 100, 2, 97, 9, 57, 166, 0);
+        due(0, 100, 2, 90, 9, 47, 170, 0);
+        due(0, 100, 12, 179, 9, 172, 103, 0);
+        due(0, 255, 3, 128, 9, 255, 255, 33);
         Check.sentence("LIMIT(v) is v, but 0 if it is below 0, 255 if it is above 255.");
         due(0, 200, 255, 255, 9, 255, 66, 255);
         due(0, 10, 0, 0, 9, 0, 145, 0);
@@ -250,6 +258,17 @@ public final class CanvasTest {
         due(1, 255, 255, 0, 0, 226, 0, 149);
         due(1, 0, 255, 255, 0, 179, 171, 0);
         due(1, 255, 0, 255, 0, 105, 212, 235);
+        // Just at the edge of rounding: each number one more or one less would be another sample.
+        int[][] edges = {{199, 0, 0, 0, 60}, {187, 1, 0, 0, 56}, {252, 19, 0, 0, 87}, {57, 11, 0, 0, 23}, {185, 133, 1, 0, 134},
+            {140, 98, 1, 0, 99}, {184, 132, 0, 0, 133}, {139, 97, 0, 0, 98}, {80, 0, 0, 1, 115}, {1, 1, 0, 1, 127},
+            {96, 16, 0, 1, 107}, {80, 0, 16, 1, 123}, {0, 0, 1, 1, 128}, {108, 123, 0, 2, 131}, {1, 0, 0, 2, 128},
+            {0, 123, 0, 2, 77}, {0, 166, 0, 2, 58}, {1, 230, 107, 2, 24}, {0, 1, 1, 2, 127}};
+        for (int[] w : edges) {
+            Check.due("close " + w[0] + ", " + w[1] + ", " + w[2] + ", plane " + w[3], mix(1, w[0], w[1], w[2], 0)[w[3]], w[4]);
+            if (w[3] == 0) {
+                Check.due("grey " + w[0] + ", " + w[1] + ", " + w[2], mix(4, w[0], w[1], w[2], 0)[0], w[4]);
+            }
+        }
         due(1, 1, 0, 0, 0, 0, 128, 128);
         due(1, 0, 0, 1, 0, 0, 128, 128);
     }
@@ -349,6 +368,40 @@ public final class CanvasTest {
         x.canvasSize(1, 3, 2);
         x.canvasSize(2, 2, 3);
         Check.due("turned", x.mixCanvas(2), false);
+    }
+
+    /** All b and c of OPEN, by canvases of 1024 places, with an a that hides nothing of planes 0 and 2. */
+    private static void allOfOpen() {
+        Check.sentence("0, OPEN: with p = b - 128, q = c - 128: LIMIT(a + SHIFTED(91881 * q + 32768, 16));");
+        for (int part = 0; part < 64; part++) {
+            Subject x = new Subject();
+            int[][][] given = new int[3][32][32];
+            int[][][] want = new int[3][32][32];
+            for (int at = 0; at < 1024; at++) {
+                int b = part * 4 + at / 256;
+                int c = at % 256;
+                int a = part % 3 == 0 ? 0 : part % 3 == 1 ? 255 : 128;
+                given[0][at / 32][at % 32] = a;
+                given[1][at / 32][at % 32] = b;
+                given[2][at / 32][at % 32] = c;
+                int p = b - 128;
+                int q = c - 128;
+                want[0][at / 32][at % 32] = limit(a + Math.floorDiv(91881 * q + 32768, 65536));
+                want[1][at / 32][at % 32] = limit(a + Math.floorDiv(-22554 * p - 46802 * q + 32768, 65536));
+                want[2][at / 32][at % 32] = limit(a + Math.floorDiv(116130 * p + 32768, 65536));
+            }
+            for (int p = 0; p < 3; p++) {
+                Canvas.put(x, p, given[p]);
+            }
+            Check.due("open", x.mixCanvas(0), true);
+            for (int p = 0; p < 3; p++) {
+                Canvas.due("part " + part, x, p, want[p]);
+            }
+        }
+    }
+
+    private static int limit(int v) {
+        return v < 0 ? 0 : v > 255 ? 255 : v;
     }
 
     private static void mixesByChance() {

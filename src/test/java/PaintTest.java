@@ -35,6 +35,17 @@ public final class PaintTest {
             refused(x, wrong, wrong, 1, 0, 100);
         }
         Check.due("no picture", x.aboutPicture(0), -1);
+        Check.sentence("there are more than 192 blocks,");
+        // 32 by 32 has at most 64 blocks, so that no picture of the canvas has too many.
+        Subject most = new Subject();
+        for (int p = 0; p < 4; p++) {
+            most.canvasSize(p, 32, 32);
+        }
+        for (int shape : new int[] {0x00, 0xff}) {
+            Check.due("the most blocks", most.paintFrom(32, 32, 4, shape, 100), true);
+            Check.due("blocks", most.aboutPicture(3), 64);
+        }
+        Check.sentence("A PICTURE of the CANVAS: w by h, 1 .. 32 each, with so many components, 1 .. 4;");
         int[][] sizes = {{1, 1}, {32, 1}, {1, 32}, {32, 32}, {31, 2}};
         for (int[] size : sizes) {
             x.canvasSize(0, size[0], size[1]);
@@ -323,7 +334,8 @@ public final class PaintTest {
     }
 
     private static void shrunkBoth() {
-        Check.sentence("+ 1 + x modulo 2, 2).");
+        Check.sentence("BOTH: W and H are half as much, rounded up; the new (x, y) is SHIFTED(the four old ones (2 * x, 2 * y), "
+            + "(2 * x + 1, 2 * y), (2 * x, 2 * y + 1), (2 * x + 1, 2 * y + 1) + 1 + x modulo 2, 2).");
         // At x = 0: 403 and 406, + 1, by 4 are 101; at x = 1: 402 and 405, + 2.
         flatWhenShrunk("least", 0, 101, new int[][] {{100, 101, 101, 100}, {101, 101, 100, 101}});
         flatWhenShrunk("most", 0, 101, new int[][] {{101, 102, 101, 101}, {101, 102, 102, 101}});

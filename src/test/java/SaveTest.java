@@ -21,8 +21,10 @@ public final class SaveTest {
         zerosOfABand();
         runsOfABand();
         runsAndRestarts();
+        refinedBits();
         refinedZeros();
         runsWithManyBits();
+        namesOfComponents();
         blocksThatAreNotItsOwn();
         thereAndBack();
         Check.end();
@@ -542,6 +544,82 @@ public final class SaveTest {
         Parts.same("one run with bits", Parts.dataOf(save(y, 2, 0), 5), Parts.data("0 00 0101"));
         Parts.same("runs of one with bits", Parts.dataOf(save(y, 2, 1), 5),
             Parts.data("0 0", "R0", "0 1", "R1", "0 0", "R2", "0 1"));
+    }
+
+    /** The data of the last scan, which refines 1 .. 63 with BITS 0, of blocks with these {block, k, value}. */
+    private static void refined(String what, int many, int[][] values, String... bits) {
+        Subject x = of(blocks(many));
+        for (int[] w : values) {
+            x.setCoefficient(0, w[0], 0, w[1], w[2]);
+        }
+        Parts.same(what, Parts.dataOf(save(x, 2, 0), 5), Parts.data(bits));
+    }
+
+    private static void refinedBits() {
+        Check.sentence("Then: u above 1: the lowest bit of u is one more TO COME. u = 1: the RUN is sent; "
+            + "the word for 16 * R + 1; a bit, 0 if the coefficient is below 0, else 1; the bits TO COME (none then); R is 0.");
+        // 0 and 1 come once each: their words are 0 and 10. At the end there is a run of one.
+        refined("a bit ahead of a new one", 1, new int[][] {{0, 1, 3}, {0, 2, -1}}, "10 0 1", "0");
+        refined("a bit ahead of a new one", 1, new int[][] {{0, 1, -2}, {0, 2, 1}}, "10 1 0", "0");
+        refined("a bit behind a new one", 1, new int[][] {{0, 1, -1}, {0, 2, 3}}, "10 0", "0 1");
+        refined("bits ahead and behind", 1, new int[][] {{0, 1, 3}, {0, 2, 4}, {0, 3, 1}, {0, 4, 5}}, "10 1 10", "0 1");
+        // R counts those with u = 0 alone: 1, 2 and 4 are passed over, 3 has a bit.
+        refined("others among the 0s", 1, new int[][] {{0, 3, 2}, {0, 5, 1}}, "10 1 0", "0");
+        Subject x = of(blocks(1));
+        x.setCoefficient(0, 0, 0, 3, 2);
+        x.setCoefficient(0, 0, 0, 5, 1);
+        symbols("three are passed over", save(x, 2, 0), 4, false, 0, 49);
+        Check.sentence("At the end, if R is above 0 or there are bits TO COME: the RUN is 1 more, and these are its bits, "
+            + "behind those it has;");
+        refined("bits of three blocks", 3, new int[][] {{0, 1, 2}, {1, 1, 3}, {1, 2, 2}, {2, 63, 5}}, "0 1", "0", "10", "1");
+        // The run with its bit is sent ahead of the new one, whose block ends with another run.
+        refined("a run ahead of a new one", 2, new int[][] {{0, 5, 2}, {1, 1, 1}}, "0 0", "10 1", "0");
+        // A block with bits alone: no R, but a run. One with new ones alone: neither.
+        Model.Pic pic = blocks(2);
+        for (int k = 1; k < 64; k++) {
+            pic.blocks[0][0][0][k] = 2 + k % 2;
+            pic.blocks[0][0][1][k] = k % 2 == 0 ? 1 : -1;
+        }
+        Subject y = of(pic);
+        // 0 once, 1 sixty-three times: 1 has the word 0.
+        Parts.same("bits alone, new ones alone", Parts.dataOf(save(y, 2, 0), 5),
+            Parts.data("10", "10".repeat(31) + "1", "00 01".repeat(31) + "00"));
+        Check.sentence("The RUN is sent, if it is above 0:");
+        Parts.same("no run at all", Parts.dataOf(save(crop(y), 2, 0), 5), Parts.data("00 01".repeat(31) + "00"));
+        Check.sentence("L is the last one with u = 1 (-1 if there is none).");
+        refined("no new one", 1, new int[][] {{0, 20, 2}, {0, 40, 3}}, "0 01");
+        refined("two behind the last new one", 1, new int[][] {{0, 1, 1}, {0, 20, 2}, {0, 40, 3}}, "10 1", "0 01");
+    }
+
+    /** The second block alone. */
+    private static Subject crop(Subject x) {
+        Check.due("crop", x.cropTo(1, 0, 1, 1), true);
+        return x;
+    }
+
+    private static void namesOfComponents() {
+        Check.sentence("A SEGMENT 192 (sequential) or 194 (progressive) with the FRAME; component c has the name c + 1 and the table c.");
+        Subject x = Parts.open("other names and tables", Tiny.S, Parts.quantiser(3, 9), Parts.quantiser(1, 5), Tiny.DC, Tiny.AC,
+            Parts.frame(192, 9, 17, 200, 18, 3, 7, 17, 1, 0, 33, 3), Parts.scan(0, 63, 0, 200, 0, 7, 0, 0, 0),
+            Parts.data("00".repeat(2 * 5)), Tiny.E);
+        int[] whole = save(x, 0, 0);
+        int[] frame = {8, 0, 9, 0, 17, 3, 1, 18, 0, 2, 17, 1, 3, 33, 2};
+        Parts.same("frame", Parts.contents(whole, 192, 0), frame);
+        Parts.same("no other", Parts.contents(whole, 194, 0));
+        Parts.same("scan", Parts.contents(whole, 218, 0), 3, 1, 0, 2, 17, 3, 34, 0, 63, 0);
+        int[] steps = Parts.contents(whole, 219, 0);
+        for (int c = 0; c < 3; c++) {
+            Check.due("table " + c, steps[65 * c], c);
+            Check.due("its last step", steps[65 * c + 64], c == 1 ? 5 : 9);
+        }
+        int[] bands = save(x, 2, 0);
+        Parts.same("progressive", Parts.contents(bands, 194, 0), frame);
+        Parts.same("no other", Parts.contents(bands, 192, 0));
+        // A height that was told by lines is told by the frame.
+        Subject y = Parts.open("lines", Tiny.TABLES, Parts.frame(192, 0, 8, 1, 17, 0), Tiny.SCAN, Parts.data("0000"),
+            Parts.lines(10), Tiny.E);
+        Parts.same("frame", Parts.contents(save(y, 0, 0), 192, 0), 8, 0, 10, 0, 8, 1, 1, 17, 0);
+        Parts.same("no lines", Parts.contents(Parts.outputOf(y), 220, 0));
     }
 
     private static void refinedZeros() {

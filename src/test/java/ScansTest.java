@@ -51,6 +51,7 @@ public final class ScansTest {
     private static void namesOfComponents() {
         Check.sentence("7: a component in a SCAN that the FRAME does not have, or out of order "
             + "(its name; ahead of 6 for the sum).");
+        Check.sentence("for each: the name of one of the FRAME's, in the FRAME's order;");
         int[] head = three();
         int at = head.length + 4;
         for (int name : row(0, 1, 4, 8, 255)) {
@@ -366,6 +367,11 @@ public final class ScansTest {
         for (int code : row(1, 191, 193, 222, 240)) {
             Parts.due("255, " + code, 4, at + 2, head, row(0x3f, 255, code), E);
         }
+        Check.sentence("(Of a FILE 6, 3 for a direct SYMBOL and 2 for a TABLE without words never come: "
+            + "its DATA end ahead of such a 255, and its tables are as said.)");
+        Parts.due("the data end ahead of 255, 218", 11, 0, TABLES, Parts.frame(192, 8, 8, 1, 17, 0, 2, 17, 0), Tiny.SCAN,
+            Parts.scan(0, 63, 0, 2, 0), Tiny.BITS, E);
+        Parts.due("the data end ahead of 255, 254", 11, 0, head, Parts.segment(254), E);
         Parts.due("255, 0 many times", 15, 0, head, row(0x3f, 255, 0, 255, 0, 255, 0), E);
         // The byte 255 in the middle and at the end of the data: all of it is one block of 1023, 1023 and the end.
         int[] words = Parts.words(16, 0, 1, 2, 3, 4, 10);
