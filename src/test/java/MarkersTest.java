@@ -270,5 +270,12 @@ public final class MarkersTest {
         Subject y = Parts.open("with more", S, Parts.segment(254), Parts.segment(224, 1), Tiny.Q, Tiny.DC, Tiny.AC,
             Tiny.FRAME, Tiny.SCAN, Tiny.BITS, Parts.segment(239), E, Parts.segment(254), E);
         Check.due("segments", y.statusOf(5), 8);
+        // As many as can be told in 512 calls, ahead of the first scan and behind the last one.
+        int[] many = new int[0];
+        for (int k = 0; k < 430; k++) {
+            many = Parts.join(many, Parts.segment(224 + k % 16));
+        }
+        Subject z = Parts.open("many segments", S, many, Tiny.Q, Tiny.DC, Tiny.AC, Tiny.FRAME, Tiny.SCAN, Tiny.BITS, many, E);
+        Check.due("segments", z.statusOf(5), 2 * 430 + 5);
     }
 }

@@ -18,6 +18,7 @@ public final class PaintTest {
         shrunkBoth();
         shrunkOdd();
         planesStay();
+        onlyWhereItIsLess();
         Check.end();
     }
 
@@ -406,5 +407,33 @@ public final class PaintTest {
         y.paintFrom(2, 1, 2, 0x04, 1);
         Check.due("shrunk beside H 2", y.coefficientAt(0, 0, 0, 0), 8 * (15 - 128));
         Check.due("not shrunk itself", y.coefficientAt(1, 0, 0, 0) != 8 * (15 - 128), true);
+    }
+
+    private static void onlyWhereItIsLess() {
+        Check.sentence("SHRUNK ACROSS, DOWN or BOTH if its H, its V or both are less than HM, VM;");
+        // Beside H 2, V 1 it is shrunk across alone: two rows of 100 and 50 stay two rows; and the other way round.
+        int[][] rows = {{100, 101}, {50, 51}};
+        int[][] across = {{100}, {50}};
+        int[][] down = {{75, 76}};
+        int[][] both = {{75}};
+        int[][][] want = {across, down, both, rows};
+        int[] shapes = {1, 2, 3, 0};
+        for (int k = 0; k < 4; k++) {
+            Subject x = new Subject();
+            Canvas.put(x, 0, rows);
+            Canvas.put(x, 1, rows);
+            x.paintFrom(2, 2, 2, shapes[k], 1);
+            int[][] eight = new int[8][8];
+            for (int y = 0; y < 8; y++) {
+                for (int left = 0; left < 8; left++) {
+                    int[] row = want[k][Math.min(y, want[k].length - 1)];
+                    eight[y][left] = row[Math.min(left, row.length - 1)];
+                }
+            }
+            int[] block = Model.forward(eight, ones());
+            for (int n = 0; n < 64; n++) {
+                Check.due("beside shape " + shapes[k] + ", coefficient " + n, x.coefficientAt(1, 0, 0, n), block[n]);
+            }
+        }
     }
 }

@@ -23,6 +23,7 @@ public final class ScansTest {
         orderOfFaults();
         endOfData();
         restartsInData();
+        manyScans();
         Check.end();
     }
 
@@ -62,6 +63,23 @@ public final class ScansTest {
         Parts.due("the same again", 7, at + 3, head, Parts.scan(0, 63, 0, 5, 0, 5, 0));
         Parts.due("the first one again", 7, at + 5, head, Parts.scan(0, 63, 0, 5, 0, 7, 0, 5, 0));
         Parts.due("out of order", 7, at + 3, head, Parts.scan(0, 63, 0, 7, 0, 5, 0));
+        int[] names = {5, 7, 6};
+        for (int first = 0; first < 3; first++) {
+            for (int second = 0; second < 3; second++) {
+                int[] scan = Parts.scan(0, 63, 0, names[first], 0, names[second], 0);
+                if (second > first) {
+                    Parts.due("in order", 1, head.length + scan.length, head, scan);
+                } else {
+                    Parts.due("components " + first + ", " + second, 7, at + 3, head, scan);
+                }
+                for (int third = 0; third < 3 && second > first; third++) {
+                    int[] more = Parts.scan(0, 63, 0, names[first], 0, names[second], 0, names[third], 0);
+                    boolean good = third > second;
+                    Parts.due("components " + first + ", " + second + ", " + third, good ? 1 : 7,
+                        good ? head.length + more.length : at + 5, head, more);
+                }
+            }
+        }
         Parts.due("by their names these are in order", 7, at + 5, head, Parts.scan(0, 63, 0, 5, 0, 6, 0, 7, 0));
         Parts.due("in the frame's order with one left out", 0, -1, head, Parts.scan(0, 63, 0, 5, 0, 6, 0),
             Parts.data("0000"), Parts.scan(0, 63, 0, 7, 0), Tiny.BITS, E);
@@ -107,6 +125,7 @@ public final class ScansTest {
             Parts.due("sum " + sum, good ? 0 : 6, good ? -1 : head.length + 4 + w[4], head,
                 Parts.scan(0, 63, 0, 1, 0, 2, 0, 3, 0, 4, 0), Parts.data("00".repeat(good ? sum : 0)), E);
         }
+        sumsOfSome();
         int[] ten = Parts.join(TABLES, Parts.frame(192, 8, 8, 1, 34, 0, 2, 34, 0, 3, 33, 0, 4, 17, 0));
         Parts.due("sum 10 of three", 0, -1, ten, Parts.scan(0, 63, 0, 1, 0, 2, 0, 3, 0), Parts.data("00".repeat(10)),
             Parts.scan(0, 63, 0, 4, 0), Tiny.BITS, E);
@@ -117,6 +136,30 @@ public final class ScansTest {
             Parts.scan(0, 63, 0, 1, 0, 2, 0), Parts.data("00".repeat(8)), Parts.scan(0, 63, 0, 3, 0), Tiny.BITS, E);
         Parts.due("of a progressive frame", 6, TABLES.length + 22 + 4 + 7, TABLES,
             Parts.frame(194, 8, 8, 1, 34, 0, 2, 34, 0, 3, 33, 0, 4, 17, 0), Parts.scan(0, 0, 0, 1, 0, 2, 0, 3, 0, 4, 0));
+    }
+
+    /** All choices of two or more components of some frames: it is their own shapes that count. */
+    private static void sumsOfSome() {
+        int[][] frames = {{0x11, 0x22, 0x22, 0x22}, {0x22, 0x11, 0x22, 0x22}, {0x22, 0x22, 0x11, 0x22}, {0x21, 0x22, 0x12, 0x22},
+            {0x22, 0x21, 0x22, 0x12}};
+        for (int[] shapes : frames) {
+            int[] head = Parts.join(TABLES, Parts.frame(192, 8, 8, 1, shapes[0], 0, 2, shapes[1], 0, 3, shapes[2], 0, 4, shapes[3], 0));
+            for (int choice = 1; choice < 16; choice++) {
+                int[] members = new int[0];
+                int sum = 0;
+                int wrong = 0;
+                for (int c = 0; c < 4; c++) {
+                    if ((choice >> c & 1) == 1) {
+                        members = Parts.join(members, row(c + 1, 0));
+                        sum += (shapes[c] >> 4) * (shapes[c] & 15);
+                        wrong = wrong == 0 && sum > 10 ? members.length - 1 : wrong;
+                    }
+                }
+                int[] scan = Parts.scan(0, 63, 0, members);
+                Parts.due("choice " + choice, wrong == 0 ? 1 : 6, wrong == 0 ? head.length + scan.length : head.length + 4 + wrong,
+                    head, scan);
+            }
+        }
     }
 
     private static void theSumAndOtherFaults() {
@@ -410,5 +453,24 @@ public final class ScansTest {
         Parts.due("208 at first in each scan", 0, -1, TABLES, Parts.interval(1),
             Parts.frame(192, 8, 16, 1, 17, 0, 2, 17, 0), Tiny.SCAN, Parts.data("00", "R0", "00"),
             Parts.scan(0, 63, 0, 2, 0), Parts.data("00", "R0", "00"), E);
+    }
+
+    /** As many scans as can be told in 512 calls: all bands of one coefficient, each refined three times. */
+    private static void manyScans() {
+        Check.sentence("Then its SCANS, the first one first, all coefficients being 0 ahead of it:");
+        int[] file = Parts.join(TABLES, Tiny.PROGRESSIVE, Tiny.DIRECT, Tiny.BIT);
+        int scans = 1;
+        for (int bits = 3; bits >= 0; bits--) {
+            for (int k = 1; k < 64; k++) {
+                file = Parts.join(file, Parts.scan(k, k, bits == 3 ? 3 : 16 * (bits + 1) + bits, 1, 0), Tiny.BIT);
+                scans++;
+            }
+        }
+        Subject x = Parts.open("many scans", file, E);
+        Check.due("scans", x.statusOf(4), scans);
+        Check.due("segments", x.statusOf(5), 4 + scans);
+        Check.due("253 of them", scans, 253);
+        file[file.length - 1] = 0x3f;
+        Parts.due("a fault of the last one", 15, 252, file, E);
     }
 }

@@ -14,6 +14,7 @@ public final class TablesTest {
         words();
         symbols();
         wordsAgain();
+        manyTables();
         intervals();
         Check.end();
     }
@@ -262,6 +263,28 @@ public final class TablesTest {
             Tiny.SCAN, Parts.data("0 10 1 0"), Parts.words(16, 0), Parts.scan(0, 63, 0, 2, 0), Parts.data("0 10 1 0"), E);
         Parts.due("a table told behind the scan is not there", 12, 0, S, Tiny.Q, Parts.words(0, 0), Tiny.AC, Tiny.FRAME,
             Tiny.SCAN, Parts.data("10 1 0"), Parts.words(0, 0, 1), E);
+    }
+
+    private static void manyTables() {
+        Check.sentence("196 WORDS: one or more of:");
+        // As many as can be told in 512 calls: each is that from there on, until the last one.
+        int[] all = new int[0];
+        for (int k = 0; k < 195; k++) {
+            all = Parts.join(all, Parts.table(k % 2 == 0 ? 0 : 16, k < 193 ? 2 : k == 193 ? 0 : 1));
+        }
+        Subject x = Parts.open("many tables in one segment", S, Tiny.Q, Parts.segment(196, all), Tiny.FRAME, Tiny.SCAN,
+            Parts.data("0 1 0"), E);
+        Check.due("the last one", x.coefficientAt(0, 0, 0, 0), 1);
+        Parts.due("a fault of the last one", 6, 2 + 69 + 4 + 18 * 194, S, Tiny.Q,
+            Parts.segment(196, Parts.join(Arrays.copyOf(all, 18 * 194), row(4), Arrays.copyOf(all, 17))));
+        // Fifty tables of quantisers.
+        int[] steps = new int[0];
+        for (int k = 0; k < 50; k++) {
+            steps = Parts.join(steps, table(k % 4, k));
+        }
+        Subject y = Parts.open("many tables of quantisers", S, Parts.segment(219, steps), Tiny.DC, Tiny.AC,
+            Parts.frame(192, 8, 8, 1, 17, 1), Tiny.SCAN, Tiny.BITS, E);
+        steps("the last one of table 1", y, 0, 49);
     }
 
     private static void intervals() {
