@@ -2,14 +2,16 @@ import java.util.Random;
 
 /** Promises 2 to 20: calls by chance, good and bad, against the model. */
 public final class RandomCallsTest {
+    /** What has been told must be told again by a new object, so that it leaves so many calls to ask with. */
+    private static final int LEFT_TO_ASK = 150;
+
     public static void main(String[] args) {
         int rounds = args.length > 0 ? Integer.parseInt(args[0]) : 150;
         long seed = args.length > 1 ? Long.parseLong(args[1]) : 1;
         for (int round = 0; round < rounds; round++) {
             Random random = new Random(seed * 7919 + round);
             Pair pair = new Pair("seed " + seed + " round " + round);
-            // What has been told must be told again by a new object, so that there is an end to it.
-            for (int call = 0; call < 60 && pair.x.left() > 250; call++) {
+            for (int call = 0; call < 60 && pair.x.left() > LEFT_TO_ASK + 100; call++) {
                 oneCall(pair, random);
             }
             pair.compareAll();
@@ -52,7 +54,7 @@ public final class RandomCallsTest {
                 break;
             case 4:
                 int[] file = new FileMaker(random, random.nextInt(4) == 0 ? 64 : 24).make();
-                if (file.length <= 8 * (pair.x.left() - 150)) {
+                if (file.length <= 8 * (pair.x.left() - LEFT_TO_ASK)) {
                     pair.giveBytes(file);
                     pair.openInput();
                 }
@@ -113,7 +115,7 @@ public final class RandomCallsTest {
         for (int p = 0; p < Math.min(4, many) && random.nextInt(20) > 0; p++) {
             pair.canvasSize(p, w, h);
             for (int y = 0; y < h && y < 32; y++) {
-                for (int x = 0; x < w && x < 32; x += 8) {
+                for (int x = 0; x < w && x < 32 && pair.x.left() > LEFT_TO_ASK; x += 8) {
                     long eight = 0;
                     for (int k = 0; k < 8; k++) {
                         int sample = rough ? random.nextInt(4) == 0 ? 255 * random.nextInt(2) : random.nextInt(256)
